@@ -161,10 +161,12 @@ public final class ModelTests {
         columns = 1 + less(4);
         StringBuilder text = new StringBuilder(columns == 3 && oneIn(2) ? "" : "columns " + columns + ";");
         List<String> clauses = new ArrayList<>();
-        int rows = oneIn(6) ? 24 + less(7) : less(9);
+        int rows = oneIn(6) ? 24 + less(7) : oneIn(8) ? less(3) : 2 + less(8);
         int spread = oneIn(3) ? 4 : rows + 6;
+        boolean isRising = oneIn(2);
         for (int i = 0; i < rows; i++) {
-            clauses.add(row("row", spread));
+            String row = row("row", spread);
+            clauses.add(isRising ? row.replaceFirst("-?[ ]*[0-9]+", "" + (i * 7 + 3) % 31) : row);
         }
         for (int i = less(oneIn(3) ? 11 : 4); i > 0; i--) {
             clauses.add(row("other", oneIn(2) ? spread : 30));
@@ -282,10 +284,10 @@ public final class ModelTests {
         switch (less(23)) {
             case 0: {
                 int n = pickInt(-1, 0, 1, 20, 21, 900, 901);
-                if (oneIn(3)) {
+                if (oneIn(25)) {
                     same("table " + n, () -> writer.table(n), () -> model.table(n));
                     columns = model.count(0);
-                } else if (oneIn(8)) {
+                } else if (oneIn(12)) {
                     text(oneIn(3));
                 }
                 break;
