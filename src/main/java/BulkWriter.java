@@ -920,11 +920,6 @@ public final class BulkWriter {
             return value >= 0 && value < valueCount && value < ATOMS ? valueStarts[value + 1] - valueStarts[value] : 0;
         }
 
-        boolean isAtom(int value, int position, int kind) {
-            int atom = atomAt(value, position);
-            return atom != NONE && kinds[atom] == kind;
-        }
-
         /** Where an ATOM of a VALUE lies, NONE without it. */
         int atomAt(int value, int position) {
             if (value < 0 || value >= valueCount || value >= ATOMS || position < 0) {
@@ -1497,9 +1492,10 @@ public final class BulkWriter {
         private void narrow(Script script, int left, int sign) {
             int column = script.atomAt(left, 0);
             int signed = script.atomAt(left + 1, 0);
-            boolean isBound = script.atomsOf(left) == 1 && script.atomsOf(left + 1) == 1
-                    && script.isAtom(left, 0, COLUMN) && script.isAtom(left + 1, 0, NUMBER);
-            if (!isBound || column == NONE || signed == NONE || script.arguments[column] != first) {
+            if (column == NONE || signed == NONE || script.atomsOf(left) != 1 || script.atomsOf(left + 1) != 1) {
+                return;
+            }
+            if (script.kinds[column] != COLUMN || script.arguments[column] != first || script.kinds[signed] != NUMBER) {
                 return;
             }
             int bound = script.arguments[signed];
