@@ -8,6 +8,7 @@ public final class FaultTests {
         columns();
         keys();
         statements();
+        longTexts();
         Writing.end("FaultTests");
     }
 
@@ -44,6 +45,8 @@ public final class FaultTests {
         bad(1, "update a = ^(1);");
         bad(1, "row 1 2 3;^(");
         bad(1, "row 1 2 ^x3;");
+        bad(1, "index ^az;");
+        bad(1, "index ^aza;");
     }
 
     private static void clauses() {
@@ -183,6 +186,8 @@ public final class FaultTests {
         bad(1, "delete ^a;");
         bad(1, "insert^;");
         bad(1, "insert 1, 2^;");
+        bad(1, "insert 1, 2^;row x;");
+        bad(1, "insert 1, 2^;columns 2;");
         bad(1, "insert 1, 2 ^where a = 1;");
         bad(1, "insert 1, 2, 3^, 4;");
         bad(1, "insert 1 ^2 3;");
@@ -199,5 +204,24 @@ public final class FaultTests {
         bad(1, "merge a a keep insert 1, 2, other^;");
         bad(1, "merge a a keep ^set a = 1;");
         good("delete where a < 1 and b = 2 and c > 3 and 1 < a and count = sum a;");
+    }
+
+    /** Texts of just 900 bytes, of as many TOKENS and ATOMS as there can be. */
+    private static void longTexts() {
+        bad(1, "^" + ";".repeat(900));
+        bad(1, "^" + "(".repeat(900));
+        bad(1, " ".repeat(899) + "^(");
+        bad(1, "^" + "9".repeat(900));
+        bad(1, "^" + "z".repeat(900));
+        bad(1, "columns 1;update a=" + "1+".repeat(440) + "1^");
+        bad(2, "columns 1;row -" + "^" + "5".repeat(885));
+        BulkWriter sums = Writing.of("columns 1;row 7; " + "update a=1" + "+1".repeat(436) + ";");
+        Writing.due("a value of 437 atoms", sums.run(0), 1);
+        Writing.due("a value of 437 atoms", sums.cell(0, 0), 437);
+        String tests = "delete where a=7" + "and a=7".repeat(122);
+        BulkWriter many = Writing.of("columns 1;row 7;" + tests + "and a<7;");
+        Writing.due("123 tests and one that fails", many.right(0, 0), 0);
+        BulkWriter more = Writing.of("columns 1;row 7;" + tests + "and a<8;");
+        Writing.due("124 tests that hold", more.right(0, 0), 1);
     }
 }

@@ -9,6 +9,7 @@ public final class PromiseTests {
         promise1();
         promise2();
         promise3();
+        promise3Again();
         promise4();
         promise5();
         promise6();
@@ -128,6 +129,34 @@ public final class PromiseTests {
         due("3: no rows", w.count(1), 0);
     }
 
+    /** Nothing of an earlier text is left in a later one. */
+    private static void promise3Again() {
+        BulkWriter w = new BulkWriter();
+        String held = "delete where a=7" + "and a=7".repeat(100);
+        for (int i = 0; i < 14; i++) {
+            due("3: merges", Writing.tell(w, "columns 4;row 9 9 9 9;row 8 8 8 8;other 5 5 5 5;index d c;key b a;"
+                    + "merge c d delete insert 1, 2, 3, 4;".repeat(8)), 0);
+            due("3: reasons of a merge", w.plan(7, 0, 0), 1);
+            due("3: tests", Writing.tell(w, "columns 1;row 7;" + held + "and a<7;" + "update a = a where count > 0;"
+                    + "merge a a keep;"), 0);
+            due("3: the last test fails", w.run(0), 0);
+            due("3: no reasons", w.plan(1, 0, 0), 0);
+            due("3: no reasons", w.plan(2, 0, 0), 0);
+            due("3: it holds", w.run(1), 1);
+            due("3: no others", w.run(2), 0);
+            due("3: one path", w.count(6), 1);
+            due("3: no keys", w.count(3), 0);
+            due("3: a fault", Writing.tell(w, "columns 4;row 1 2 3 4;key a;delete;insert 1, 2, 3, 4;merge d d keep;x"), 1);
+            due("3: it holds", w.run(1), 1);
+            due("3: columns stay", w.count(0), 1);
+            due("3: updates", Writing.tell(w, "columns 2;row 1 2;row 3 4;" + "update b = a;".repeat(8)), 0);
+            due("3: update", w.run(7), 2);
+            Writing.row("3", w, 1, 3, 3);
+            due("3: no reasons", w.plan(7, 0, 0), 0);
+        }
+        due("3: refused", w.count(10), 14);
+    }
+
     private static void promise4() {
         BulkWriter w = new BulkWriter();
         due("4: table", Writing.tell(w, "row 1 2 3;row 1 x"), 1);
@@ -193,6 +222,13 @@ public final class PromiseTests {
         w.take(3);
         due("7: as it is", w.along(2, 2), 1);
         missing("7: as it is", () -> w.along(2, 3));
+        BulkWriter u = Writing.of("columns 2;row 1 -9999;row 0 9999;row -9999 9999;row -9998 -9999;row 9999 -9999;"
+                + "row 9998 9999;index a b;");
+        int[] far = {2, 3, 1, 0, 5, 4};
+        for (int i = 0; i < 6; i++) {
+            due("7: up to the ends", u.along(1, i), far[i]);
+            due("7: down to the ends", u.along(2, 5 - i), far[i]);
+        }
         BulkWriter v = Writing.of("columns 1;row -9999;row 9999;row 0;row -1;index a;");
         int[] up = {0, 3, 2, 1};
         for (int i = 0; i < 4; i++) {
