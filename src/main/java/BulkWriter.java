@@ -465,6 +465,7 @@ public final class BulkWriter {
 
     /** Leaves the rows behind the statement in scratch; one that doesn't end well leaves them as they are. */
     private boolean fitsBehind(int statement) {
+        // Not by goRight: calls would go nine deep.
         rightPass.perform(script, statement, 0, MAKING, now.rows);
         scratch.copyFrom(rightPass.end == WELL ? rightPass.rows : now.rows);
         return now.isSeenIn(scratch);
@@ -821,6 +822,7 @@ public final class BulkWriter {
             columns = 3;
         }
 
+        /** As behind an empty TEXT. */
         void empty() {
             columns = 3;
             told.empty();
@@ -835,6 +837,15 @@ public final class BulkWriter {
 
         int paths() {
             return 1 + 2 * indexCount;
+        }
+
+        /** The INDEX that a PATH goes by, NONE by PLACES. */
+        static int indexOf(int path) {
+            return path > 0 ? (path - 1) / 2 : NONE;
+        }
+
+        static boolean goesDown(int path) {
+            return path > 0 && path % 2 == 0;
         }
 
         Statement statement(int number) {
@@ -1046,6 +1057,10 @@ public final class BulkWriter {
             faultPlace = NONE;
             boolean goesOn = true;
             for (int clause = 0; clause <= TEXT && goesOn && kind() != TEXT_END; clause++) {
+                if (script.statementCount >= STATEMENTS && kind() >= UPDATE_WORD && kind() <= MERGE_WORD) {
+                    goesOn = refuse(TOO_MUCH);
+                    continue;
+                }
                 switch (kind()) {
                     case COLUMNS_WORD: goesOn = readColumns(clause == 0); break;
                     case ROW_WORD: goesOn = readRow(); break;
@@ -1280,46 +1295,31 @@ public final class BulkWriter {
             return true;
         }
 
-        private boolean readUpdate() {
-            if (script.statementCount >= STATEMENTS) {
-                return refuse(TOO_MUCH);
-            }
+        private Statement begin(int change) {
             at++;
             Statement statement = script.addStatement();
-            statement.change = SET;
+            statement.change = change;
             allow(false, true);
+            return statement;
+        }
+
+        private boolean readUpdate() {
+            Statement statement = begin(SET);
             return readSets(statement) && readWhere(statement) && pass(';');
         }
 
         private boolean readDelete() {
-            if (script.statementCount >= STATEMENTS) {
-                return refuse(TOO_MUCH);
-            }
-            at++;
-            Statement statement = script.addStatement();
-            statement.change = GONE;
-            allow(false, true);
-            return readWhere(statement) && pass(';');
+            return readWhere(begin(GONE)) && pass(';');
         }
 
         private boolean readInsert() {
-            if (script.statementCount >= STATEMENTS) {
-                return refuse(TOO_MUCH);
-            }
-            at++;
-            Statement statement = script.addStatement();
-            statement.change = COPIED;
+            Statement statement = begin(COPIED);
             statement.addsRows = true;
-            allow(false, true);
             return readValues(statement) && readWhere(statement) && pass(';');
         }
 
         private boolean readMerge() {
-            if (script.statementCount >= STATEMENTS) {
-                return refuse(TOO_MUCH);
-            }
-            at++;
-            Statement statement = script.addStatement();
+            Statement statement = begin(SET);
             statement.merges = true;
             if (!readColumn()) {
                 return false;
@@ -1468,10 +1468,10 @@ public final class BulkWriter {
         private long last;
 
         void start(Script script, int path) {
-            int index = path > 0 ? (path - 1) / 2 : NONE;
+            int index = Script.indexOf(path);
             first = script.firstColumn(index);
             second = script.secondColumn(index);
-            goesDown = path > 0 && path % 2 == 0;
+            goesDown = Script.goesDown(path);
             low = -LIMIT;
             high = LIMIT;
             last = Long.MIN_VALUE;
@@ -1878,7 +1878,7 @@ public final class BulkWriter {
 
         /** REASON 1. */
         private static boolean meetsItself(Script script, Statement statement, int path) {
-            int index = path > 0 ? (path - 1) / 2 : NONE;
+            int index = Script.indexOf(path);
             int first = script.firstColumn(index);
             int second = script.secondColumn(index);
             if (statement.merges) {
@@ -1899,7 +1899,7 @@ public final class BulkWriter {
             if (motion == STILL) {
                 return copies;
             }
-            return motion != (path % 2 == 0 ? MORE : LESS);
+            return motion != (Script.goesDown(path) ? MORE : LESS);
         }
 
         /** How a COLUMN is MOVED by what it is SET to, or told anew. */
