@@ -10,6 +10,7 @@ public final class PromiseTests {
         promise2();
         promise3();
         promise3Again();
+        promise3Narrower();
         promise4();
         promise5();
         promise6();
@@ -155,6 +156,16 @@ public final class PromiseTests {
             due("3: no reasons", w.plan(7, 0, 0), 0);
         }
         due("3: refused", w.count(10), 14);
+    }
+
+    /** Numbers that rows of more COLUMNS had make no rows unlike later on. */
+    private static void promise3Narrower() {
+        BulkWriter w = new BulkWriter();
+        for (int i = 0; i < 2; i++) {
+            due("3: wide", Writing.tell(w, "columns 4;row 1 1 1 1;row 2 2 2 2;row 3 3 3 3;row 4 4 4 4;"), 0);
+        }
+        due("3: narrow", Writing.tell(w, "columns 1;row 1;row 2;index a;insert a + 5;"), 0);
+        due("3: alike in all columns that there are", w.goes(0, 2, 1, 0), 0);
     }
 
     private static void promise4() {
@@ -818,7 +829,7 @@ public final class PromiseTests {
     }
 
     private static void promise23() {
-        // Doubled four times, full from then on: the draws were made by hand outside.
+        // Doubled four times, full from then on; what the draws are was worked out by a script apart from the class.
         BulkWriter w = Writing.of("columns 1;row 1;insert a;");
         years("23:", w, 5, 0, 0, 0, 1);
         years("23:", w, 5, 1, 1, 0, 2);
