@@ -222,11 +222,11 @@ public final class BulkWriter {
         checkStatement(statement);
         checkWhat(what, 2);
         int best = 0;
-        int least = Integer.MAX_VALUE;
+        int least = 0;
         for (int path = 0; path < script.paths(); path++) {
             planner.decide(script, script.statement(statement), path, now.rows);
             int cost = planner.reads + planner.held;
-            if (cost < least) {
+            if (path == 0 || cost < least) {
                 least = cost;
                 best = path;
             }
@@ -1460,6 +1460,8 @@ public final class BulkWriter {
 
     /** Reads rows along a PATH, each time from behind where the last one stood. */
     private static final class Cursor {
+        // Farther than any row's rank.
+        private static final long FAR = 1L << 60;
         private int first;
         private int second;
         private boolean goesDown;
@@ -1474,7 +1476,7 @@ public final class BulkWriter {
             goesDown = Script.goesDown(path);
             low = -LIMIT;
             high = LIMIT;
-            last = Long.MIN_VALUE;
+            last = -FAR;
         }
 
         /** Only a path by an INDEX has a RANGE. */
@@ -1519,7 +1521,7 @@ public final class BulkWriter {
         /** The next row's PLACE, NONE at the end. */
         int next(Rows rows) {
             int found = NONE;
-            long nearest = Long.MAX_VALUE;
+            long nearest = FAR;
             for (int place = 0; place < PLACES; place++) {
                 if (!rows.has(place)) {
                     continue;

@@ -126,8 +126,7 @@ public final class LanguageTests {
             due("6: throw " + thrown.group(1), thrown.group(1).matches("new (NoSuchElement|IllegalArgument)Exception\\(\"\"\\)"));
         }
         Matcher library = Pattern.compile("\\b(Math|Integer|Long|Arrays|System|String)\\.(\\w+)").matcher(code);
-        Set<String> allowed = Set.of("Math.min", "Math.max", "Integer.bitCount", "Integer.MAX_VALUE", "Long.MIN_VALUE",
-                "Long.MAX_VALUE", "System.arraycopy");
+        Set<String> allowed = Set.of("Math.min", "Math.max", "Integer.bitCount", "System.arraycopy");
         while (library.find()) {
             due("4: " + library.group(), allowed.contains(library.group()));
         }

@@ -134,7 +134,7 @@ public final class PromiseTests {
     private static void promise3Again() {
         BulkWriter w = new BulkWriter();
         String held = "delete where a=7" + "and a=7".repeat(100);
-        for (int i = 0; i < 14; i++) {
+        for (int i = 0; i < 5; i++) {
             due("3: merges", Writing.tell(w, "columns 4;row 9 9 9 9;row 8 8 8 8;other 5 5 5 5;index d c;key b a;"
                     + "merge c d delete insert 1, 2, 3, 4;".repeat(8)), 0);
             due("3: reasons of a merge", w.plan(7, 0, 0), 1);
@@ -155,7 +155,7 @@ public final class PromiseTests {
             Writing.row("3", w, 1, 3, 3);
             due("3: no reasons", w.plan(7, 0, 0), 0);
         }
-        due("3: refused", w.count(10), 14);
+        due("3: refused", w.count(10), 5);
     }
 
     /** Numbers that rows of more COLUMNS had make no rows unlike later on. */
