@@ -178,6 +178,23 @@ public final class EdgeCallTests {
             due("all anew, count(" + i + ")", w.count(i), counts[i]);
         }
         due("none is left", w.cell(0, 0), HIDDEN);
+        // texts one behind the other, of which nothing is left
+        for (int i = 0; i < 3; i++) {
+            due("a long one", Writing.tell(w, "columns 4;" + "row 9 9 9 9;".repeat(20) + "other 1 1 1 1;".repeat(10)
+                    + "index a;index b;" + "merge b b delete insert 1,2,3,4;".repeat(7)
+                    + "delete where a=1and b=2;"), 0);
+            due("eight", w.count(5), 8);
+            due("a short one", Writing.tell(w, "columns 1;row 7;update a=8where a=7;delete;merge a a keep;"), 0);
+            int[] few = {1, 1, 0, 0, 0, 3, 1, 0, 0, 0, 0, 0, 0};
+            for (int what = 0; what < few.length; what++) {
+                due("behind a long one, count(" + what + ")", w.count(what), few[what]);
+            }
+            due("a test", w.right(0, 0), 1);
+            due("no test", w.right(1, 0), 1);
+            due("no new row", w.right(2, 0), 0);
+            Edges.plan(w, 0, 0, 0, 0, 0, 1);
+            Edges.plan(w, 2, 0, 0, 0, 0, 0);
+        }
         w.feed(-1, -1, -1, -1, -1);
         due("none of it", w.table(0), 0);
         due("it is empty", w.count(9), 0);
@@ -727,6 +744,12 @@ public final class EdgeCallTests {
         due("acts", w.count(7), 3);
         due("the act of the image", w.undo(), 2);
         Edges.row(w, 0, 1, 11);
+        // so is what is seen
+        w.forget();
+        w.see(2, 1, 5);
+        w.restore();
+        due("what is seen", w.fits(), 31);
+        w.undo();
         // forty acts behind the image leave its own alone
         for (int i = 0; i < 41; i++) {
             w.lay(0, 1, i);
@@ -738,6 +761,27 @@ public final class EdgeCallTests {
         w.undo();
         Edges.row(w, 2, 3, 30);
         due("none is left", w.undo(), NONE);
+    }
+
+    private static void imageKeepsItsOwn() {
+        holds(24, "AN IMAGE is kept");
+        BulkWriter w = good("columns 2;row 1 1;row 2 2;update a = 5;update b = 6;");
+        w.take(1);
+        w.see(0, 0, 5);
+        w.image();
+        // other acts, another thing seen, in the same places of what is kept
+        w.undo();
+        w.lay(1, 1, 9);
+        w.take(0);
+        w.forget();
+        w.see(1, 1, 6);
+        due("seen behind it", w.fits(), 2);
+        due("restored", w.restore() ? 1 : 0, 1);
+        due("seen ahead of it", w.fits(), 1);
+        due("one row", w.count(1), 1);
+        due("its act", w.undo(), 0);
+        Edges.row(w, 1, 2, 2);
+        due("two rows", w.count(1), 2);
     }
 
     private static void imageOfNothing() {

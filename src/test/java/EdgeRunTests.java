@@ -350,6 +350,25 @@ public final class EdgeRunTests {
         row(w, 3, 1, 3);
         row(w, 4, 2, 3);
         row(w, 5, 3, 3);
+        // 9 and a sum of 10 are more than 15, 1 and that sum are not, till the 9 is a 20
+        BulkWriter late = good("columns 1;row 9;row 1;update a = 20 where a + sum a > 15;");
+        goes(late, 0, 0, 0, 1, 0, 2, 0);
+        goes(late, 0, 0, 1, 1, 0, 2, 0);
+        goes(late, 0, 0, 2, 0, 0, 1, 0);
+        goes(late, 0, 0, 3, 0, 0, 1, 0);
+    }
+
+    private static void spoolsTestEachRowOnce() {
+        holds("TESTED (all TESTS; without any it holds); MADE");
+        BulkWriter w = good("columns 2;row 1 1;row 2 2;row 3 3;row 4 4;index a;update b = 0 where a + 0 > 3;delete where a + 0 < 3;"
+                + "insert a, 5 where b = 2 and 3 > a;update b = 7;");
+        int[] want = {1, 2, 1, 4};
+        for (int stage = 0; stage < 4; stage++) {
+            for (int s = 0; s < want.length; s++) {
+                goes(w, s, 0, stage, 0, 0, want[s], 0);
+                goes(w, s, 2, stage, 0, 0, want[s], 0);
+            }
+        }
     }
 
     private static void spoolBehindTheTest() {

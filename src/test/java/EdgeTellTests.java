@@ -428,6 +428,12 @@ public final class EdgeTellTests {
         w.see(2, 0, 1);
         due("a new one", w.fits(), 16);
         due("no statement", good("row 1 2 3;").fits(), 0);
+        // a new row lies where the one that goes by places lays it
+        BulkWriter laid = good("columns 1;row 3;row 1;index a;insert a + 10;insert 14 - a;");
+        laid.see(2, 0, 13);
+        due("of the first", laid.fits(), 1);
+        laid.see(3, 0, 11);
+        due("of the second, too", laid.fits(), 1);
         BulkWriter none = good("row 1 2 3;");
         none.see(0, 0, 1);
         due("no statement", none.fits(), 0);

@@ -179,6 +179,8 @@ public final class EdgeTextTests {
         bad(1, "^rows 1 2 3;");
         bad(1, "update a = 1 ^wherea = 1;");
         bad(1, "index ^ab;");
+        bad(1, "index ^az;");
+        bad(1, "index ^aza;");
         good("update a=1where a=1;");
         good("row1 2 3;index a;");
         // the signs beside a and z, and capital letters
@@ -383,6 +385,8 @@ public final class EdgeTextTests {
         bad(3, "index ^d;row 1;columns 9;");
         bad(1, "row 1^;index d;columns 9;");
         bad(4, "row 1 2 3;^columns 9;index d;");
+        bad(1, "insert 1, 2^;columns 9;");
+        bad(1, "merge a a keep insert 1^;row 1;");
         bad(2, "columns ^9;?");
         bad(2, "row ^12345 ?");
     }
