@@ -34,6 +34,7 @@ public final class EdgeCallTests {
         BulkWriter w = busy();
         Edges.missing(what, () -> call.of(w));
         Edges.keeps(what, w, () -> call.of(w));
+        stillBusy(w);
     }
 
     /** The call throws IllegalArgumentException and leaves all as it was. */
@@ -48,6 +49,7 @@ public final class EdgeCallTests {
         due(what, call.of(w), want);
         due(what + " is counted", w.count(status), 1);
         Edges.keeps(what, w, () -> call.of(w), status);
+        stillBusy(w);
     }
 
     /** Two columns, three rows, a key, two indexes more, five statements, acts and an image and something seen. */
@@ -59,6 +61,22 @@ public final class EdgeCallTests {
         w.see(0, 0, 1);
         w.image();
         return w;
+    }
+
+    /** Its acts and its image are as they were; the acts are undone then, the image is brought back. */
+    private static void stillBusy(BulkWriter w) {
+        due("the act that is left", w.undo(), 1);
+        Edges.row(w, 0, 1, 10);
+        Edges.row(w, 2, 3, 31);
+        due("no act is left", w.undo(), 0);
+        Edges.row(w, 2, 3, 30);
+        due("there was none ahead of it", w.undo(), NONE);
+        due("the image", w.restore() ? 1 : 0, 1);
+        Edges.row(w, 0, 1, 11);
+        Edges.row(w, 1, 2, 21);
+        Edges.row(w, 2, 3, 32);
+        due("its acts", w.count(7), 2);
+        due("what it has seen", w.fits(), 31);
     }
 
     private static int blank(BulkWriter w) {
@@ -259,8 +277,8 @@ public final class EdgeCallTests {
             BulkWriter fed = busy();
             blank(fed);
             illegal(n + " of 20", fed, it -> it.table(n));
+            stillBusy(fed);
             due("the tape stays", fed.count(9), 20);
-            due("the image stays", fed.restore() ? 1 : 0, 1);
             due("20 of 20", fed.table(20), 0);
             fed.feed(-1, -1, -1, -1, -1);
             due("a fault", fed.table(20), 1);
@@ -530,9 +548,7 @@ public final class EdgeCallTests {
         due("nothing is written", w.run(4), 0);
         due("two acts", w.count(7), 2);
         due("refused", w.count(11), 6);
-        BulkWriter key = busy();
-        Edges.keeps("clash", key, () -> key.run(4), 11);
-        due("clash", key.run(4), -6);
+        refused("clash", -6, 11, it -> it.run(4));
     }
 
     private static void runKnowsStatements() {
@@ -601,6 +617,8 @@ public final class EdgeCallTests {
         due("there is none", w.take(29), NONE);
         due("refused", w.count(11), 2);
         due("two acts", w.count(7), 2);
+        refused("there is none", NONE, 11, it -> it.take(3));
+        refused("there is none", NONE, 11, it -> it.take(29));
         BulkWriter one = good("columns 1;row 1;");
         due("the only one", one.take(0), 0);
         due("none is left", one.take(0), NONE);
@@ -724,13 +742,16 @@ public final class EdgeCallTests {
 
     private static void yearsKnowsTwenty() {
         holds(23, "IllegalArgumentException (behind that): n");
-        BulkWriter w = busy();
         for (int n : new int[] {-1, 21, LOW, HIGH}) {
-            illegal("n " + n, busy(), it -> it.years(1, n, 0));
+            BulkWriter w = busy();
+            illegal("n " + n, w, it -> it.years(1, n, 0));
+            stillBusy(w);
             missing("n " + n + ", and another what", it -> it.years(1, n, 3));
             missing("n " + n + ", and another what", it -> it.years(1, n, -1));
         }
-        Edges.keeps("twenty years", w, () -> w.years(1, 20, 0));
+        BulkWriter last = busy();
+        Edges.keeps("twenty years", last, () -> last.years(1, 20, 0));
+        stillBusy(last);
     }
 
     private static void imageTakesAnothersPlace() {

@@ -150,6 +150,26 @@ public final class EdgeRunTests {
         goes(swap, 0, 0, 0, 0, 0, 2, 0);
     }
 
+    private static void pathIsInTheOrderAsItIsThen() {
+        holds("Along a PATH the next ROW is the first, in that order as it is then");
+        BulkWriter w = good("columns 1;row 1;row 5;index a;update a = a + 5 where a < 8;insert a + 1 where a < 4;delete;");
+        // up: 1 becomes 6, 5 becomes 10, the 6 becomes 11; right 6 and 10
+        goes(w, 0, 1, 0, 1, 0, 3, 1);
+        // down: 5 becomes 10, 1 becomes 6
+        goes(w, 0, 2, 0, 0, 0, 2, 0);
+        // up: 2, 3, 4 come one behind the other
+        goes(w, 1, 1, 0, 0, 0, 3, 0);
+        goes(w, 1, 2, 0, 0, 0, 1, 0);
+        // by places too: 2 at place 2, 3 at place 3, 4 at place 4
+        goes(w, 1, 0, 0, 0, 0, 3, 0);
+        BulkWriter empty = good("columns 1;index a;update a = 1;delete;insert 1;");
+        for (int path = 0; path < 3; path++) {
+            for (int s = 0; s < 3; s++) {
+                goes(empty, s, path, 0, 0, 0, 0, 0);
+            }
+        }
+    }
+
     private static void rangeOf(String tests, int... want) {
         BulkWriter w = good("columns 2;row -9999 0;row 3 1;row 4 0;row 5 1;row 9999 0;index a;index b a;delete where "
                 + tests + ";");
