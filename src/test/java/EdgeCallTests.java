@@ -196,29 +196,40 @@ public final class EdgeCallTests {
             due("all anew, count(" + i + ")", w.count(i), counts[i]);
         }
         due("none is left", w.cell(0, 0), HIDDEN);
-        // texts one behind the other, of which nothing is left
-        for (int i = 0; i < 3; i++) {
-            due("a long one", Writing.tell(w, "columns 4;" + "row 9 9 9 9;".repeat(20) + "other 1 1 1 1;".repeat(10)
-                    + "index a;index b;" + "merge b b delete insert 1,2,3,4;".repeat(7)
-                    + "delete where a=1and b=2;"), 0);
-            due("eight", w.count(5), 8);
-            due("a short one", Writing.tell(w, "columns 1;row 7;update a=8where a=7;delete;merge a a keep;"), 0);
-            int[] few = {1, 1, 0, 0, 0, 3, 1, 0, 0, 0, 0, 0, 0};
-            for (int what = 0; what < few.length; what++) {
-                due("behind a long one, count(" + what + ")", w.count(what), few[what]);
-            }
-            due("a test", w.right(0, 0), 1);
-            due("no test", w.right(1, 0), 1);
-            due("no new row", w.right(2, 0), 0);
-            Edges.plan(w, 0, 0, 0, 0, 0, 1);
-            Edges.plan(w, 2, 0, 0, 0, 0, 0);
-        }
         w.feed(-1, -1, -1, -1, -1);
         due("none of it", w.table(0), 0);
         due("it is empty", w.count(9), 0);
         blank(w);
         blank(w);
         due("all of it", w.table(40), 0);
+    }
+
+    private static void tableLeavesNothingOfEarlierTexts() {
+        holds(3, "are a TEXT, all anew");
+        BulkWriter w = new BulkWriter();
+        String wide = "columns 4;" + "row 9 9 9 9;".repeat(9) + "other 1 1 1 1;".repeat(10) + "index a;"
+                + "merge b b delete insert 1,2,3,4;".repeat(7) + "delete where a=1and b=2;";
+        String narrow = "columns 1;row 7;update a=8where a=7;delete;merge a a keep;";
+        String many = "row 1 1 1;key a;update a=1" + "+1".repeat(200) + " where a=1" + "and a=1".repeat(30) + ";";
+        // three texts, so that each comes where any of them was ahead of it
+        for (int i = 0; i < 4; i++) {
+            due("a wide one", Writing.tell(w, wide), 0);
+            due("eight", w.count(5), 8);
+            due("a narrow one", Writing.tell(w, narrow), 0);
+            int[] few = {1, 1, 0, 0, 0, 3, 1};
+            for (int what = 0; what < few.length; what++) {
+                due("behind a wide one, count(" + what + ")", w.count(what), few[what]);
+            }
+            due("a test", w.right(0, 0), 1);
+            due("no test", w.right(1, 0), 1);
+            due("no new row", w.right(2, 0), 0);
+            due("no reason", w.plan(0, 0, 0), 0);
+            due("no reason", w.plan(2, 0, 0), 0);
+            due("many atoms", Writing.tell(w, many), 0);
+            due("all of them", w.run(0), 1);
+            due("all of them", w.cell(0, 0), 201);
+            due("the last test, too", w.run(0), 0);
+        }
     }
 
     private static void tableWithAFaultLeavesAll() {
@@ -803,6 +814,15 @@ public final class EdgeCallTests {
         due("its act", w.undo(), 0);
         Edges.row(w, 1, 2, 2);
         due("two rows", w.count(1), 2);
+        // forty acts, all of one row
+        w.restore();
+        for (int i = 0; i < 40; i++) {
+            w.lay(0, 1, i);
+        }
+        due("restored", w.restore() ? 1 : 0, 1);
+        due("its act", w.undo(), 0);
+        Edges.row(w, 0, 1, 1);
+        Edges.row(w, 1, 2, 2);
     }
 
     private static void imageOfNothing() {
