@@ -115,6 +115,45 @@ public final class EdgeCallTests {
         due("call 512", w.cell(0, 0), 1);
     }
 
+    private static void keysMayClashOnTheWay() {
+        Edges.holds("What it is", "keys may clash while it is written, and not at its end");
+        BulkWriter w = good("columns 1;row 1;row 2;row 3;key a;update a = a + 1;update a = 4 - a;update a = 2 where a = 1;");
+        due("2 2 3 is on the way", w.run(0), 3);
+        due("back", w.undo(), 0);
+        due("3 2 3 is on the way", w.run(1), 3);
+        due("back", w.undo(), 0);
+        due("2 2 3 is the end", w.run(2), -6);
+        Edges.row(w, 0, 1);
+    }
+
+    private static void noRowIsChangedByTwo() {
+        Edges.holds("What it is", "merges of other rows, in which no row may be changed by two");
+        BulkWriter w = good("columns 2;row 1 0;row 2 0;other 1 5;other 2 6;other 1 7;merge a a set b = other b;merge a a delete;"
+                + "merge a b set b = other b;");
+        due("two", w.run(0), -2);
+        due("two", w.run(1), -2);
+        Edges.row(w, 0, 1, 0);
+        due("none is", w.run(2), 0);
+    }
+
+    private static void whatCannotBeIsUndone() {
+        Edges.holds("What it is", "what can't be is undone to the last number");
+        StringBuilder text = new StringBuilder("columns 2;");
+        for (int i = 0; i < 28; i++) {
+            text.append("row ").append(i).append(" 0;");
+        }
+        BulkWriter w = good(text + "key a;insert a + 100, 1;update a = a - a, b = 9;update b = b + 9999 + a;");
+        int[] ends = {3, 5, 2};
+        for (int s = 0; s < ends.length; s++) {
+            due("it can't be", w.run(s), -1 - ends[s]);
+            for (int place = 0; place < 28; place++) {
+                Edges.row(w, place, place, 0);
+            }
+            Edges.row(w, 28, HIDDEN, HIDDEN);
+            due("rows", w.count(1), 28);
+        }
+    }
+
     private static void newObjectHasAnEmptyText() {
         holds(1, "A TABLE of an empty TEXT");
         BulkWriter told = new BulkWriter();
@@ -401,6 +440,17 @@ public final class EdgeCallTests {
         for (int i : new int[] {-1, 3, LOW, HIGH}) {
             missing("along(0, " + i + ")", it -> it.along(0, i));
         }
+    }
+
+    private static void rightTellsWritesAndTheEnd() {
+        holds(8, "Of the RIGHT run of a STATEMENT: 0 how many it WRITES, 1 its END");
+        BulkWriter w = good("columns 1;row 1;row 2;key a;update a = 2 where a = 1;update a = a;");
+        Edges.right(w, 0, 1, 5);
+        Edges.right(w, 1, 2, 0);
+        // it is asked by the rows as they are, and changes none
+        w.lay(1, 0, 3);
+        Edges.right(w, 0, 1, 0);
+        Edges.keeps("right", w, () -> w.right(0, 1));
     }
 
     private static void rightTellsByItsEnd() {

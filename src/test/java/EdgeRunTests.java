@@ -1,5 +1,7 @@
 /** Boundaries of the second part of the terms: values, paths, statements, spools, ends. */
 public final class EdgeRunTests {
+    private static final int HIDDEN = Edges.HIDDEN;
+
     public static void main(String[] args) throws ReflectiveOperationException, java.io.IOException {
         Edges.runAll(EdgeRunTests.class);
         Writing.end("EdgeRunTests");
@@ -104,6 +106,23 @@ public final class EdgeRunTests {
         goes(w, 1, 0, 3, 0, 0, 3, 0);
         // each is the least of those that are left
         goes(w, 2, 0, 0, 2, 0, 3, 0);
+    }
+
+    private static void atomsAskTheRowOthersOrTheTable() {
+        holds("COLUMN: what the ROW has; 'other' COLUMN: what the row of OTHERS has; 'sum', 'least', 'most' of a COLUMN, 'count'");
+        String table = "columns 2;row 1 5;row 3 -4;other 7 8;other 3 9;merge a a ";
+        String[] values = {"a", "b", "other a", "other b", "sum b", "least b", "most b", "count", "sum a", "least a", "most a",
+            "a + other b"};
+        int[] want = {3, -4, 3, 9, 1, -4, 5, 2, 4, 1, 3, 12};
+        for (int i = 0; i < values.length; i++) {
+            BulkWriter w = good(table + "set b = " + values[i] + ";");
+            due(values[i], w.run(0), 1);
+            row(w, 0, 1, 5);
+            row(w, 1, 3, want[i]);
+        }
+        BulkWriter w = good(table + "keep insert other b, other a;");
+        due("a new row", w.run(0), 1);
+        row(w, 2, 8, 7);
     }
 
     // ---- paths
@@ -262,7 +281,7 @@ public final class EdgeRunTests {
         due("two", w.run(0), 2);
         row(w, 1, 11);
         row(w, 4, 13);
-        row(w, 5, Edges.HIDDEN);
+        row(w, 5, HIDDEN);
         BulkWriter last = good("columns 1;" + "row 1;".repeat(29) + "row 2;insert 7 where a = 2;");
         last.take(0);
         due("the first of all", last.run(0), 1);
@@ -272,6 +291,40 @@ public final class EdgeRunTests {
         last.take(28);
         due("the last but one", last.run(0), 1);
         row(last, 28, 7);
+    }
+
+    /** Where a number is over, the run ends: how many were written ahead tells in which order rows were read. */
+    private static void rowsAreReadAlongThePath() {
+        holds("A STATEMENT, of 'update', 'delete', 'insert': ROWS are READ along a PATH");
+        BulkWriter w = good("columns 2;row 2 0;row 3 9999;row 1 0;index a;update b = b + 1;insert a, b + 1;"
+                + "delete where a + count > 4;");
+        goes(w, 0, 0, 0, 1, 2, 1, 0);
+        goes(w, 0, 1, 0, 2, 2, 2, 0);
+        goes(w, 0, 2, 0, 0, 2, 0, 0);
+        goes(w, 0, 1, 3, 0, 2, 0, 0);
+        goes(w, 1, 0, 2, 0, 2, 1, 0);
+        goes(w, 1, 1, 2, 0, 2, 2, 0);
+        goes(w, 1, 2, 2, 0, 2, 0, 0);
+        // 5, then 5; 4, 5, then 5; down 6, then 4 and 3
+        goes(w, 2, 0, 0, 0, 0, 2, 0);
+        goes(w, 2, 1, 0, 0, 0, 2, 0);
+        goes(w, 2, 2, 0, 0, 0, 1, 0);
+    }
+
+    private static void whatIsMadeIsWritten() {
+        holds("of 'insert' a new row by VALUES; WRITTEN: the ROW has this; is gone; the new one lies");
+        BulkWriter w = good("columns 2;row 1 10;row 2 20;row 3 30;update b = a where a = 2;delete where a = 2;"
+                + "insert b, a where a = 2;");
+        int[][] middle = {{2, 2}, {HIDDEN, HIDDEN}, {2, 20}};
+        int[][] behind = {{HIDDEN, HIDDEN}, {HIDDEN, HIDDEN}, {20, 2}};
+        for (int s = 0; s < 3; s++) {
+            due("one", w.run(s), 1);
+            row(w, 0, 1, 10);
+            row(w, 1, middle[s]);
+            row(w, 2, 3, 30);
+            row(w, 3, behind[s]);
+            w.undo();
+        }
     }
 
     private static void mergeMatchesByTwoColumns() {
@@ -314,6 +367,55 @@ public final class EdgeRunTests {
         due("no rows", good("columns 1;other 1;index a;merge a a keep;").plan(0, 1, 3), 0);
     }
 
+    private static void mergeReadsAlongThePath() {
+        holds("along the PATH (by an INDEX of which that COLUMN is the first");
+        BulkWriter w = good("row 5 2 0;row 5 3 9999;row 5 1 0;row 6 9 0;other 5 0 0;other 6 0 0;index b;index a b;"
+                + "merge a a set c = c + 1;");
+        int[] ahead = {1, 2, 0, 2, 0};
+        for (int path = 0; path < ahead.length; path++) {
+            for (int stage = 0; stage < 3; stage++) {
+                goes(w, 0, path, stage, ahead[path], 2, ahead[path], 0);
+            }
+            goes(w, 0, path, 3, 0, 2, 0, 0);
+        }
+    }
+
+    private static void eachThatIsLikeIsAMatch() {
+        holds("each is a MATCH");
+        BulkWriter w = good("columns 2;row 1 0;row 1 0;row 2 0;row 1 0;other 1 7;merge a a set b = other b;merge a a delete;");
+        due("three", w.run(0), 3);
+        row(w, 0, 1, 7);
+        row(w, 1, 1, 7);
+        row(w, 2, 2, 0);
+        row(w, 3, 1, 7);
+        due("three", w.run(1), 3);
+        due("one is left", w.count(1), 1);
+    }
+
+    private static void matchesAreSetOrGone() {
+        holds("MADE: of a MATCH by SETS, gone ('delete')");
+        BulkWriter w = good("columns 2;row 1 5;row 2 6;other 1 7;merge a a set a = b, b = other b + a;merge a a delete;");
+        due("set", w.run(0), 1);
+        row(w, 0, 5, 8);
+        row(w, 1, 2, 6);
+        w.undo();
+        due("gone", w.run(1), 1);
+        row(w, 0, HIDDEN, HIDDEN);
+        row(w, 1, 2, 6);
+    }
+
+    private static void mergesHaveNoTest() {
+        holds("all hold (no TEST)");
+        BulkWriter w = good("columns 1;row -9999;row 0;row 9999;other -9999;other 0;other 9999;merge a a set a = 0 - a;"
+                + "merge a a delete;");
+        right(w, 0, 3, 0);
+        right(w, 1, 3, 0);
+        Edges.plan(w, 0, 0, 1, 1, 3, 9);
+        Edges.bad(1, "merge a a keep ^where a = 1;");
+        Edges.bad(1, "merge a a set a = 1 ^where a = 1;");
+        Edges.bad(1, "merge a a delete insert 1, 2, 3 ^where a = 1;");
+    }
+
     private static void mergeMakesANewRowOnlyWithoutAMatch() {
         holds("if there was none, and 'insert' is told, a new row");
         BulkWriter w = good("columns 1;row 1;row 1;other 1;other 2;other 2;merge a a keep insert other a;merge a a keep;"
@@ -324,7 +426,7 @@ public final class EdgeRunTests {
         w.run(0);
         row(w, 2, 2);
         row(w, 3, 2);
-        row(w, 4, Edges.HIDDEN);
+        row(w, 4, HIDDEN);
         // now none is without a match
         right(w, 0, 0, 0);
         // without a spool the second finds what the first has written
@@ -358,6 +460,35 @@ public final class EdgeRunTests {
         goes(w, 0, 2, 0, 0, 0, 1, 0);
         Edges.missing("no stage -1", () -> w.goes(0, 0, -1, 0));
         Edges.missing("no stage 4", () -> w.goes(0, 0, 4, 0));
+    }
+
+    private static void withoutASpoolEachIsWrittenAheadOfTheNext() {
+        holds("each ROW is READ, TESTED, MADE, WRITTEN before the next is READ");
+        BulkWriter w = good("columns 2;row 1 0;row 1 0;row 1 0;index a;update a = a + 1, b = sum a where sum a < 6;"
+                + "update a = a + 1, b = sum a where sum a < 7;");
+        // right: (2 3) three times; live (2 3) (2 4) (2 5)
+        for (int path = 0; path < 3; path++) {
+            goes(w, 0, path, 0, 2, 0, 3, 0);
+        }
+        // up: a sum of 6 is less than 7, so that (2 3) is read and becomes (3 6)
+        goes(w, 1, 0, 0, 2, 0, 3, 0);
+        goes(w, 1, 1, 0, 3, 0, 4, 1);
+        goes(w, 1, 2, 0, 2, 0, 3, 0);
+    }
+
+    /** No run passes a row over: the one way to it would be a row that two of OTHERS match, and that is DOUBLE. */
+    private static void noRowGoesMeanwhile() {
+        holds("(A ROW that is gone meanwhile is passed over.)");
+        BulkWriter twice = good("columns 1;row 1;other 1;other 1;merge a a delete;merge a a delete insert 5;");
+        BulkWriter once = good("columns 1;row 1;row 1;row 2;other 1;other 2;merge a a delete;delete;delete where a = 1;");
+        int[] all = {3, 3, 2};
+        for (int stage = 0; stage < 4; stage++) {
+            goes(twice, 0, 0, stage, 0, 1, 0, 0);
+            goes(twice, 1, 0, stage, 0, 1, 0, 0);
+            for (int s = 0; s < all.length; s++) {
+                goes(once, s, 0, stage, 0, 0, all[s], 0);
+            }
+        }
     }
 
     private static void spoolBehindReading() {
@@ -585,6 +716,32 @@ public final class EdgeRunTests {
         w.run(1);
         row(w, 3, 3, 9);
         row(w, 5, 1, 9);
+    }
+
+    private static void rightTellsHowManyAndTheEnd() {
+        holds("What it tells: how many it WRITES; its END");
+        BulkWriter w = good("columns 1;row 1;row 2;key a;other 2;other 2;update a = a + 1;update a = 5;update a = a * 9999;"
+                + "delete where a > 9;merge a a delete;");
+        int[][] want = {{2, 0, -1, -1}, {2, 5, 0, 1}, {0, 2, 1, 0}, {0, 0, -1, -1}, {0, 1, 1, 1}};
+        for (int s = 0; s < want.length; s++) {
+            right(w, s, want[s]);
+        }
+        right(good("columns 1;" + "row 1;".repeat(28) + "insert 7;"), 0, 2, 3, -1, -1);
+    }
+
+    private static void whatIsRunGoesRight() {
+        holds("A STATEMENT that is RUN goes so");
+        BulkWriter w = good("columns 2;row 3 1;row 2 1;row 1 1;index a;update b = sum b;update a = a + 1;insert a + 1, 0;");
+        int[][] rows = {{3, 3, 2, 3, 1, 3, HIDDEN, HIDDEN}, {4, 1, 3, 1, 2, 1, HIDDEN, HIDDEN}, {3, 1, 2, 1, 1, 1, 4, 0}};
+        int[] wrong = {7, 2, 3};
+        for (int s = 0; s < rows.length; s++) {
+            due("another way goes wrong", w.wrongPaths(s), wrong[s]);
+            due("all three", w.run(s), 3);
+            for (int place = 0; place < 4; place++) {
+                row(w, place, rows[s][2 * place], rows[s][2 * place + 1]);
+            }
+            w.undo();
+        }
     }
 
     private static void doubleTellsTheFirst() {

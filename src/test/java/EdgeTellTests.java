@@ -96,6 +96,27 @@ public final class EdgeTellTests {
         }
     }
 
+    private static void movedIsWhatIsSet() {
+        holds("A COLUMN is MOVED, if it is SET (told anew by 'insert')");
+        reasons("update c = 5", 0, 0, 0, 1, 1);
+        reasons("update b = 5", 0, 1, 1, 0, 0);
+        reasons("update a = 5, c = 5", 0, 1, 1, 1, 1);
+        reasons("insert 5, b, c", 1, 1, 1, 1, 1);
+        reasons("insert a, 5, c - 1", 1, 1, 1, 0, 1);
+        reasons("insert a - 1, 5, 5", 1, 0, 1, 1, 1);
+        reasons("insert b, a, c + 1", 1, 1, 1, 1, 0);
+    }
+
+    private static void movedBackByItselfAndASigned() {
+        holds("MOVED BACK, if it is SET by it and another SIGNED,");
+        reasons("update c = c - 1", 0, 0, 0, 0, 1);
+        reasons("update c = c + 1", 0, 0, 0, 1, 0);
+        reasons("update b = b - 7", 0, 0, 1, 0, 0);
+        for (String other : new String[] {"a - 7", "c - 7", "b - a", "b - count", "b - sum c", "7 - b", "7 + b", "-7", "b - 7 - 0"}) {
+            reasons("update b = " + other, 0, 1, 1, 0, 0);
+        }
+    }
+
     private static void backIsLessUpMoreDown() {
         holds("added or taken off, so that it is less (up), more (down)");
         reasons("update a = a - 1", 0, 0, 1, 0, 0);
@@ -362,6 +383,24 @@ public final class EdgeTellTests {
         due("both", full.order(0, -1), 2);
         due("first what goes", full.order(0, 0), 0);
         due("then what comes", full.order(0, 1), 1);
+    }
+
+    private static void orderIsOfAllKeys() {
+        holds("(by which no KEY has two ROWS alike then)");
+        String rows = "columns 2;row 1 1;row 2 2;";
+        String update = "update a = a + 1, b = 3 - b;";
+        // (2 2) (3 1): the first can't be by a, nor the second by b
+        BulkWriter both = good(rows + "key a;key b;" + update);
+        Edges.right(both, 0, 2, 0);
+        due("none", both.order(0, -1), -1);
+        for (String keys : new String[] {"key a;index b;", "key a b;", "index b;index a;key b a;"}) {
+            BulkWriter w = good(rows + keys + update);
+            due(keys, w.order(0, -1), 2);
+            due(keys, w.order(0, 0), 1);
+            due(keys, w.order(0, 1), 0);
+        }
+        BulkWriter none = good(rows + "index a;index b;" + update);
+        due("no key", none.order(0, 0), 0);
     }
 
     private static void orderThatThereIsNot() {

@@ -241,6 +241,40 @@ public final class EdgeTextTests {
         bad(1, "row 1 2 3;^;");
     }
 
+    private static void quotesAndBracketsAreNoPartOfIt() {
+        holds("In quotes is what stands there, [ ] perhaps, * any number of times, | one of some");
+        bad(1, "^'row' 1 2 3;");
+        bad(1, "^[row 1 2 3;]");
+        bad(1, "^(row 1 2 3;)");
+        bad(1, "row^|other 1 2 3;");
+        bad(1, "row 1 2 3 ^*;");
+    }
+
+    private static void columnsHaveOneNumber() {
+        holds("CLAUSE: ('columns' NUMBER");
+        due("two", good("columns 2;").count(0), 2);
+        due("no blank is needed", good("columns2;").count(0), 2);
+        bad(1, "columns^;");
+        bad(1, "columns ^-2;");
+        bad(1, "columns 2 ^3;");
+        bad(1, "columns 2^, 3;");
+    }
+
+    private static void keysAreToldAsIndexes() {
+        holds("('key' | 'index') COLUMN [COLUMN]");
+        BulkWriter w = good("index a;key b;key c a;");
+        due("all are indexes", w.count(2), 3);
+        due("the second and the third are keys", w.count(3), 6);
+        for (String word : new String[] {"key", "index"}) {
+            bad(1, word + "^;");
+            bad(1, word + " ^1;");
+            bad(1, word + " ^" + word + " a;");
+            bad(1, word + " a ^1;");
+            bad(1, word + " a^, b;");
+            bad(1, word + " a b ^c;");
+        }
+    }
+
     private static void rowsHaveSignedNumbers() {
         holds("('row' | 'other') SIGNED SIGNED*");
         good("columns 1;row 1;other 1;");

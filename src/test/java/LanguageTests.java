@@ -14,23 +14,12 @@ import java.util.regex.Pattern;
 
 /** What of LANGUAGE.md can be told from the source and by reflection; the numbers are those of its rules. */
 public final class LanguageTests {
-    private static final Set<String> FACE = Set.of(
-            "int feed(int,int,int,int,int)", "int table(int) IllegalArgumentException", "int fault()",
-            "int count(int) NoSuchElementException", "int cell(int,int) NoSuchElementException",
-            "int along(int,int) NoSuchElementException", "int right(int,int) NoSuchElementException",
-            "int plan(int,int,int) NoSuchElementException", "int goes(int,int,int,int) NoSuchElementException",
-            "int wrongPaths(int) NoSuchElementException", "int cheapest(int,int) NoSuchElementException",
-            "int clashes(int) NoSuchElementException", "int order(int,int) NoSuchElementException",
-            "int run(int) NoSuchElementException", "int lay(int,int,int) NoSuchElementException",
-            "int take(int) NoSuchElementException", "int undo()", "int see(int,int,int)", "int fits()",
-            "int look(int) NoSuchElementException", "void forget()",
-            "int years(int,int,int) NoSuchElementException IllegalArgumentException", "void image()", "boolean restore()");
     private static int wrong = 0;
 
-    public static void main(String[] args) throws IOException {
+    public static void main(String[] args) throws IOException, IllegalAccessException {
         List<Class<?>> classes = new ArrayList<>(List.of(BulkWriter.class.getDeclaredClasses()));
         classes.add(BulkWriter.class);
-        face();
+        face(Files.readString(Path.of("../shared/DOC.md")));
         for (Class<?> one : classes) {
             members(one);
         }
@@ -49,7 +38,24 @@ public final class LanguageTests {
         }
     }
 
-    private static void face() {
+    /** Methods and constants as the document's face has them, written as signature() and constants do. */
+    private static Set<String> dueFace(String document) {
+        Set<String> due = new TreeSet<>();
+        Matcher methods = Pattern.compile("(?m)^    public (\\w+) (\\w+)\\(([^)]*)\\)(?: throws ([\\w, ]+))?;$").matcher(document);
+        while (methods.find()) {
+            String parameters = methods.group(3).replaceAll(" \\w+(, |$)", ",").replaceAll(",$", "");
+            String thrown = methods.group(4) == null ? "" : " " + methods.group(4).replace(", ", " ");
+            due.add(methods.group(1) + " " + methods.group(2) + "(" + parameters + ")" + thrown);
+        }
+        due("the document has a face", due.size() == 24);
+        Matcher constants = Pattern.compile("(?m)^    public static final int (\\w+) = (-?\\d+);$").matcher(document);
+        while (constants.find()) {
+            due.add(constants.group(1) + " = " + constants.group(2));
+        }
+        return due;
+    }
+
+    private static void face(String document) throws IllegalAccessException {
         Set<String> seen = new TreeSet<>();
         Set<String> publicNames = new TreeSet<>();
         for (Method m : BulkWriter.class.getDeclaredMethods()) {
@@ -59,7 +65,6 @@ public final class LanguageTests {
                 publicNames.add(m.getName());
             }
         }
-        due("1: the face " + seen, seen.equals(FACE));
         due("1: final", Modifier.isFinal(BulkWriter.class.getModifiers()));
         Constructor<?>[] constructors = BulkWriter.class.getDeclaredConstructors();
         due("1: one constructor", constructors.length == 1 && Modifier.isPublic(constructors[0].getModifiers())
@@ -71,9 +76,13 @@ public final class LanguageTests {
             }
         }
         for (Field f : BulkWriter.class.getDeclaredFields()) {
-            boolean isConstant = f.getName().equals("NONE") || f.getName().equals("HIDDEN");
-            due("1: " + f, isConstant ? Modifier.isPublic(f.getModifiers()) : Modifier.isPrivate(f.getModifiers()));
+            due("1: public or private: " + f, Modifier.isPublic(f.getModifiers()) || Modifier.isPrivate(f.getModifiers()));
+            if (Modifier.isPublic(f.getModifiers())) {
+                due("5: " + f, Modifier.isStatic(f.getModifiers()) && Modifier.isFinal(f.getModifiers()) && f.getType() == int.class);
+                seen.add(f.getName() + " = " + f.get(null));
+            }
         }
+        due("1: the face " + seen, seen.equals(dueFace(document)));
     }
 
     private static String signature(Method m) {
