@@ -1,5 +1,12 @@
-/** Texts and their FAULTS: the kind, and the place at the '^' below the text. */
+import java.util.Random;
+
+/** Texts and their FAULTS: the kind, and the place at the '^' in the text. */
 public final class FaultTests {
+    // Some twice: they go on where most others can't stand.
+    private static final String[] TOKENS = {"columns", "row", "other", "key", "index", "update", "delete", "insert", "merge", "set",
+        "keep", "sum", "least", "most", "count", "where", "and", "a", "b", "c", "d", "e", "rows", "1", "2", "0", "9999", "12345",
+        "00001", ";", ",", "+", "-", "*", "<", "=", ">", "?", "(", "a", "b", "1", ";", ",", ";", "=", "1", "3", "where", "set"};
+
     public static void main(String[] args) {
         tokens();
         clauses();
@@ -9,6 +16,7 @@ public final class FaultTests {
         keys();
         statements();
         longTexts();
+        textsTokenByToken();
         Writing.end("FaultTests");
     }
 
@@ -223,5 +231,28 @@ public final class FaultTests {
         Writing.due("123 tests and one that fails", many.right(0, 0), 0);
         BulkWriter more = Writing.of("columns 1;row 7;" + tests + "and a<8;");
         Writing.due("124 tests that hold", more.right(0, 0), 1);
+    }
+
+    /** The first FAULT is at the TOKEN that came last, if the text ahead of it only ended too soon, whatever comes behind. */
+    private static void textsTokenByToken() {
+        Random random = new Random(7);
+        for (int walk = 0; walk < 200; walk++) {
+            String text = "";
+            for (int i = 0; i < 200 && text.length() < 850; i++) {
+                String token = TOKENS[random.nextInt(TOKENS.length)];
+                String next = text + (random.nextBoolean() ? " " : "\n") + token;
+                BulkWriter writer = new BulkWriter();
+                int kind = Writing.tell(writer, next);
+                if (kind == 0 || kind == 1 && writer.fault() == next.length()) {
+                    text = next;
+                    continue;
+                }
+                Writing.due("fault of " + next, writer.fault(), next.length() - token.length());
+                String more = next + " " + TOKENS[random.nextInt(TOKENS.length)];
+                BulkWriter behind = new BulkWriter();
+                Writing.due("table of " + more, Writing.tell(behind, more), kind);
+                Writing.due("fault of " + more, behind.fault(), writer.fault());
+            }
+        }
     }
 }
